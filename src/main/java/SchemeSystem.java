@@ -491,7 +491,6 @@ public final class SchemeSystem {
             constants = new Row(constantsLength);
             for (int i = 0; i < constantsLength; i++) {
                 makeValue(heap, constantData[i], constants, i, 0);
-                constantData[i] = null;
             }
         }
 
@@ -562,7 +561,7 @@ public final class SchemeSystem {
         }
 
         private static boolean begins(Datum datum, int name) {
-            return datum.first != null && datum.first.kind == NAME && datum.first.whole == name;
+            return datum != null && datum.first != null && datum.first.kind == NAME && datum.first.whole == name;
         }
 
         private static void need(boolean right) {
@@ -599,7 +598,8 @@ public final class SchemeSystem {
         }
 
         private void list(Datum form, Template around, boolean tail, int depth) {
-            if (form.first == null || !form.first.isCapital()) {
+            need(form.first != null);
+            if (!form.first.isCapital()) {
                 procedureCall(form, around, tail, depth);
                 return;
             }
@@ -1068,8 +1068,6 @@ public final class SchemeSystem {
 
     /** The built-in PROCEDURES. */
     private static final class Primitives {
-        private static final double FLOAT_MOST = 1000000000.0;
-
         private final Heap heap;
 
         Primitives(Heap heap) {
@@ -1157,7 +1155,7 @@ public final class SchemeSystem {
         }
 
         private static double inRange(double real) {
-            if (real > FLOAT_MOST || real < -FLOAT_MOST) {
+            if (real > 1000000000.0 || real < -1000000000.0) {
                 throw new ArithmeticException();
             }
             return real;

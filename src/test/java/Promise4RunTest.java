@@ -11,6 +11,7 @@ public final class Promise4RunTest {
         depth(checks);
         objects(checks);
         whatAThrowLeaves(checks);
+        manyNamesKept(checks);
         checks.end();
     }
 
@@ -221,5 +222,24 @@ public final class Promise4RunTest {
         s.compile("(");
         checks.due("none at hand", s.run(), "missing");
         checks.due("that changes nothing", s.work() + s.written(), "1 1(1 . 2)");
+    }
+
+    private static void manyNamesKept(Checks checks) {
+        Session s = new Session();
+        s.run("(D a 0)");
+        s.compile("(D a(B((x a))(B()(B()(B()(L()x))))))");
+        for (int i = 0; i < 100; i++) {
+            s.run();
+            s.collect();
+        }
+        checks.due("PROCEDURES in one another", s.count(3), 100);
+        s.compile("(N w((i 1)(j 2))(w j i))");
+        for (int i = 0; i < 5; i++) {
+            checks.due("all STEPS", s.run() + s.work(), "too much1000 1");
+            s.collect();
+        }
+        s.run("(D w(L(p k)(I(= k 0)p(w(p)(- k 1)))))");
+        checks.due("the innermost", s.value("(w a 100)") + s.work(), "0402 2");
+        checks.due("one before", s.value("((w a 99))"), "0");
     }
 }

@@ -1,14 +1,40 @@
 import java.util.NoSuchElementException;
 
-/** A SchemeSystem under test, its answers as texts: an exception is answered by its short name. */
+/** A Scheme in use, its answers as texts: an exception is answered by its short name in the document. */
 final class Session {
-    final SchemeSystem system = new SchemeSystem();
+    /** The face of the class, so that the model can be asked in its place. */
+    interface Scheme {
+        int type(long eight);
 
-    interface Call {
+        int compile();
+
+        int run();
+
+        int letter(int i);
+
+        double number(int i);
+
+        int collect();
+
+        int count(int what);
+    }
+
+    private interface Call {
         Object answer();
     }
 
-    static String answerOf(Call call) {
+    private final Scheme scheme;
+
+    /** A new SchemeSystem, the class under test. */
+    Session() {
+        this(new UnderTest());
+    }
+
+    Session(Scheme scheme) {
+        this.scheme = scheme;
+    }
+
+    private static String answerOf(Call call) {
         try {
             return String.valueOf(call.answer());
         } catch (IllegalArgumentException e) {
@@ -37,17 +63,18 @@ final class Session {
         String answer = count(1);
         for (int i = 0; i < text.length(); i += 8) {
             String part = text.substring(i, Math.min(i + 8, text.length()));
-            answer = answerOf(() -> system.type(packed(part)));
+            answer = answerOf(() -> scheme.type(packed(part)));
         }
         return answer;
     }
 
+    /** Types what an earlier call of packed, or anything else, made. */
     String typeNumber(long eight) {
-        return answerOf(() -> system.type(eight));
+        return answerOf(() -> scheme.type(eight));
     }
 
     String compile() {
-        return answerOf(() -> system.compile());
+        return answerOf(() -> scheme.compile());
     }
 
     String compile(String text) {
@@ -56,7 +83,7 @@ final class Session {
     }
 
     String run() {
-        return answerOf(() -> system.run());
+        return answerOf(() -> scheme.run());
     }
 
     String run(String text) {
@@ -65,27 +92,27 @@ final class Session {
     }
 
     String letter(int i) {
-        return answerOf(() -> system.letter(i));
+        return answerOf(() -> scheme.letter(i));
     }
 
     String number(int i) {
-        return answerOf(() -> system.number(i));
+        return answerOf(() -> scheme.number(i));
     }
 
     String collect() {
-        return answerOf(() -> system.collect());
+        return answerOf(() -> scheme.collect());
     }
 
     String count(int what) {
-        return answerOf(() -> system.count(what));
+        return answerOf(() -> scheme.count(what));
     }
 
     /** The latest VALUE as it is written. */
     String written() {
         StringBuilder all = new StringBuilder();
-        int length = system.letter(-1);
+        int length = scheme.letter(-1);
         for (int i = 0; i < length; i++) {
-            all.append((char) system.letter(i));
+            all.append((char) scheme.letter(i));
         }
         return all.toString();
     }
@@ -96,8 +123,60 @@ final class Session {
         return answer.isEmpty() || Character.isDigit(answer.charAt(0)) ? written() : answer;
     }
 
+    /** All that can be asked without a change. */
+    String state() {
+        StringBuilder all = new StringBuilder();
+        for (int i = -1; i < 9; i++) {
+            all.append(count(i)).append(' ');
+        }
+        all.append(written());
+        for (int i = 0; !number(i).equals("missing"); i++) {
+            all.append(' ').append(number(i));
+        }
+        return all.toString();
+    }
+
     /** The STEPS and the greatest DEPTH of the latest run. */
     String work() {
         return count(5) + " " + count(6);
+    }
+
+    private static final class UnderTest implements Scheme {
+        private final SchemeSystem system = new SchemeSystem();
+
+        @Override
+        public int type(long eight) {
+            return system.type(eight);
+        }
+
+        @Override
+        public int compile() {
+            return system.compile();
+        }
+
+        @Override
+        public int run() {
+            return system.run();
+        }
+
+        @Override
+        public int letter(int i) {
+            return system.letter(i);
+        }
+
+        @Override
+        public double number(int i) {
+            return system.number(i);
+        }
+
+        @Override
+        public int collect() {
+            return system.collect();
+        }
+
+        @Override
+        public int count(int what) {
+            return system.count(what);
+        }
     }
 }
