@@ -703,9 +703,9 @@ public final class SchemeSystem {
             body(template, form.part(2), depth);
         }
 
-        private void body(Template template, Datum expression, int depth) {
+        private void body(Template template, Datum inside, int depth) {
             int close = open(template);
-            expression(expression, template, true, depth);
+            expression(inside, template, true, depth);
             end(template, close);
         }
 

@@ -25,6 +25,7 @@ public final class Promise3CompileTest {
         place(checks, "12345678.12", 10);
         place(checks, "123456.1234", 10);
         place(checks, "1234567.123", 10);
+        place(checks, "1.2345", 5);
         place(checks, "1.", 2);
         place(checks, "1. 5", 2);
         place(checks, "1.5.5", 3);

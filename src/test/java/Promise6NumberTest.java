@@ -48,5 +48,12 @@ public final class Promise6NumberTest {
         s.run("(f 41 '())");
         checks.due("the last of 40", s.number(39), 20.0);
         checks.due("one behind the end", s.number(40), "missing");
+
+        Session rest = new Session();
+        rest.run("(D f (L (k l) (I (= k 0) l (f (- k 1) (c 'a l)))))");
+        rest.run("(f 38 1.5)");
+        checks.due("a rest whose ~ is letter 79", rest.number(0), 1.5);
+        rest.run("(f 39 1.5)");
+        checks.due("a rest behind the end", rest.number(0), "missing");
     }
 }
