@@ -27,8 +27,8 @@ public final class ModelTest {
         "(S y(* y y))", "(/ x 0)", "(% 5 x)", "(+ x y)", "(c x(c y b))"};
 
     private final Random random;
-    private final Session real = new Session();
-    private final Session model = new Session(new Model());
+    private final Session real = Session.askedOften();
+    private final Session model = Session.ofModel(new Model());
     private final List<String> calls = new ArrayList<>();
     private final StringBuilder text = new StringBuilder();
     private String toType = "";

@@ -46,29 +46,27 @@ public final class Promise5LetterTest {
     }
 
     private static void theEndOfAText(Checks checks) {
+        lengthy(checks, "(f 39 '())", "(" + "a ".repeat(38) + "a)");
+        lengthy(checks, "(f 40 '())", "(" + "a ".repeat(39) + "a");
+        lengthy(checks, "(g 39 'a)", "(".repeat(39) + "a" + ")".repeat(39));
+        lengthy(checks, "(g 40 'a)", "(".repeat(40) + "a" + ")".repeat(39));
+        lengthy(checks, "(g 100 'a)", "(".repeat(80));
+        lengthy(checks, "(d 100 'a)", "(".repeat(80));
+        lengthy(checks, "(d 5 'a)", doubled(5).substring(0, 80));
+        lengthy(checks, "(f 37 12345678)", "(" + "a ".repeat(37) + ". 123");
+        lengthy(checks, "(f 38 1)", "(" + "a ".repeat(38) + ". 1");
+        lengthy(checks, "(f 39 1)", "(" + "a ".repeat(39) + ".");
+        lengthy(checks, "(f 40 (- 0 1))", "(" + "a ".repeat(39) + "a");
+    }
+
+    private static void lengthy(Checks checks, String text, String due) {
         Session s = new Session();
         s.run("(D f (L (k l) (I (= k 0) l (f (- k 1) (c 'a l)))))");
         s.run("(D g (L (k l) (I (= k 0) l (g (- k 1) (c l '())))))");
         s.run("(D d (L (k l) (I (= k 0) l (d (- k 1) (c l l)))))");
-        lengthy(checks, s, "(f 39 '())", "(" + "a ".repeat(38) + "a)");
-        lengthy(checks, s, "(f 40 '())", "(" + "a ".repeat(39) + "a");
-        checks.due("letter 79", s.letter(79), (int) 'a');
-        checks.due("letter 80", s.letter(80), "missing");
-        lengthy(checks, s, "(g 39 'a)", "(".repeat(39) + "a" + ")".repeat(39));
-        lengthy(checks, s, "(g 40 'a)", "(".repeat(40) + "a" + ")".repeat(39));
-        lengthy(checks, s, "(g 100 'a)", "(".repeat(80));
-        lengthy(checks, s, "(d 100 'a)", "(".repeat(80));
-        lengthy(checks, s, "(d 5 'a)", doubled(5).substring(0, 80));
-        lengthy(checks, s, "(f 37 12345678)", "(" + "a ".repeat(37) + ". 123");
-        lengthy(checks, s, "(f 38 1)", "(" + "a ".repeat(38) + ". 1");
-        lengthy(checks, s, "(f 39 1)", "(" + "a ".repeat(39) + ".");
-        lengthy(checks, s, "(f 40 (- 0 1))", "(" + "a ".repeat(39) + "a");
-    }
-
-    private static void lengthy(Checks checks, Session s, String text, String due) {
-        s.run("1");
-        s.collect();
         checks.due(text, s.value(text), due);
+        checks.due("the last letter of " + text, s.letter(due.length() - 1), (int) due.charAt(due.length() - 1));
+        checks.due("the one behind the text of " + text, s.letter(due.length()), "missing");
     }
 
     /** What (c l l), done so often from a on, is written as. */

@@ -94,13 +94,13 @@ public final class Promise7CollectTest {
     private static void usedAgain(Checks checks) {
         Session s = new Session();
         s.run("(D f (L (k l) (I (= k 0) l (f (- k 1) (c k l)))))");
-        for (int i = 0; i < 50; i++) {
+        for (int i = 0; i < 25; i++) {
             checks.due("again", s.run("(f 119 '())"), 478);
             checks.due("full", s.run("(c 1 2)") + s.count(3), "too much120");
             checks.due("held", s.collect(), 0);
             s.run("1");
             checks.due("all but f", s.collect() + s.count(3), "1191");
         }
-        checks.due("came to be", s.count(4), 1 + 50 * 119);
+        checks.due("came to be", s.count(4), 1 + 25 * 119);
     }
 }

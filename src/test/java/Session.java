@@ -23,18 +23,44 @@ final class Session {
         Object answer();
     }
 
+    /** The document promises nothing about an object after so many calls. */
+    private static final int CALLS_MOST = 512;
+
     private final Scheme scheme;
+    private int callsLeft;
 
     /** A new SchemeSystem, the class under test. */
     Session() {
-        this(new UnderTest());
+        this(new UnderTest(), CALLS_MOST);
     }
 
-    Session(Scheme scheme) {
+    private Session(Scheme scheme, int calls) {
         this.scheme = scheme;
+        callsLeft = calls;
     }
 
-    private static String answerOf(Call call) {
+    /** A new SchemeSystem whose state is asked for after each call, so often that the questions can't be counted. */
+    static Session askedOften() {
+        return new Session(new UnderTest(), Integer.MAX_VALUE);
+    }
+
+    static Session ofModel(Scheme model) {
+        return new Session(model, Integer.MAX_VALUE);
+    }
+
+    /** A new SchemeSystem with so many OBJECTS there (1 .. 120), all of them held by the GLOBALS f and a. */
+    static Session with(int objects) {
+        Session s = new Session();
+        s.run("(D f (L (k l) (I (= k 0) l (f (- k 1) (c k l)))))");
+        s.run("(D a (f " + (objects - 1) + " '()))");
+        return s;
+    }
+
+    private String answerOf(Call call) {
+        if (callsLeft == 0) {
+            throw new AssertionError("a test makes more calls than the document promises to answer");
+        }
+        callsLeft--;
         try {
             return String.valueOf(call.answer());
         } catch (IllegalArgumentException e) {
@@ -78,6 +104,9 @@ final class Session {
     }
 
     String compile(String text) {
+        if (text.length() > 64) {
+            throw new AssertionError("a test's text is too long: " + text);
+        }
         type(text);
         return compile();
     }
@@ -110,9 +139,9 @@ final class Session {
     /** The latest VALUE as it is written. */
     String written() {
         StringBuilder all = new StringBuilder();
-        int length = scheme.letter(-1);
+        int length = Integer.parseInt(letter(-1));
         for (int i = 0; i < length; i++) {
-            all.append((char) scheme.letter(i));
+            all.append((char) Integer.parseInt(letter(i)));
         }
         return all.toString();
     }
