@@ -107,6 +107,11 @@ public final class Boundary7CollectTest {
         s.run("(D r (L (k l) (I (= k 0) l (r (- k 1) (c l l)))))");
         s.run("(D a (r 110 'a))");
         checks.due("110 in one another, each twice", collectedButGlobals(s), "2 111");
+        s.run("(D a 1)");
+        checks.due("all of them", collectedButGlobals(s), "110 1");
+        s.run("(D b '(1 2 3 4 5))");
+        s.run("(D w (r 20 'a))");
+        checks.due("20 in one another, each twice, and others", collectedButGlobals(s), "0 26");
     }
 
     private static void byNames(Checks checks) {
